@@ -48,7 +48,8 @@ public final class BentPenny {
     private final Shares shares;
     private final Fraction runsChance;
     private final Best best;
-    private final Script script;
+    private final byte[] written;
+    private int writtenSize;
     private int castTosses;
 
     public BentPenny() {
@@ -68,7 +69,7 @@ public final class BentPenny {
         shares = new Shares();
         runsChance = new Fraction();
         best = new Best();
-        script = new Script();
+        written = new byte[WAY_MOST];
         castTosses = NONE;
     }
 
@@ -109,7 +110,7 @@ public final class BentPenny {
         return size;
     }
 
-    /** The tape's ROW comes into row, 1 for h, 0 for t: how long it is; NONE, if it is not as told. */
+    /** The tape's ROW comes into row, 1 for h, 0 for t; NONE, if it is not as told. */
     private int takeRow(int least, int most) {
         int size = takeTape();
         if (size < least || size > most) {
@@ -201,30 +202,29 @@ public final class BentPenny {
     // ---- chances ----
 
     public long chance(int end, int what) throws NoSuchElementException {
-        if (now.way.hasThing(now.table.open) || !tellChance(end, 0, 1, what)) {
+        boolean open = now.way.hasThing(now.table.open);
+        if (open || !now.table.hasEnd(end) || !spreadBy(0, 1, what)) {
             throw new NoSuchElementException();
         }
-        return fraction.part(what);
+        return told(odds.endWeight(end), odds.all - odds.again, what);
     }
 
     public long chanceAt(int end, int k, int m, int what) throws NoSuchElementException {
-        if (!tellChance(end, k, m, what)) {
+        if (!now.table.hasEnd(end) || !spreadBy(k, m, what)) {
             throw new NoSuchElementException();
         }
-        return fraction.part(what);
-    }
-
-    private boolean tellChance(int end, int k, int m, int what) {
-        if (!now.table.hasEnd(end) || !spreadBy(k, m, what)) {
-            return false;
-        }
-        return fraction.put(odds.endWeight(end), odds.all - odds.again);
+        return told(odds.endWeight(end), odds.all - odds.again, what);
     }
 
     public long mean(int k, int m, int what) throws NoSuchElementException {
-        if (!spreadBy(k, m, what) || !fraction.put(odds.tosses, odds.all - odds.again)) {
+        if (!spreadBy(k, m, what)) {
             throw new NoSuchElementException();
         }
+        return told(odds.tosses, odds.all - odds.again, what);
+    }
+
+    private long told(long above, long below, int what) {
+        fraction.put(above, below);
         return fraction.part(what);
     }
 
@@ -243,8 +243,7 @@ public final class BentPenny {
             throw new NoSuchElementException();
         }
         odds.tellPolynomials(now.table, now.way);
-        fraction.put(odds.powerOf(end == NONE ? ENDS : end, i), odds.all);
-        return fraction.part(what);
+        return told(odds.powerOf(end == NONE ? ENDS : end, i), odds.all, what);
     }
 
     public int like(int a, int b) {
@@ -320,8 +319,7 @@ public final class BentPenny {
         if (!fine || !isWithin(what, 2)) {
             throw new NoSuchElementException();
         }
-        fraction.put(Bits.countedSum(n, k, m - k), Fraction.power(m, n));
-        return fraction.part(what);
+        return told(Bits.countedSum(n, k, m - k), Fraction.power(m, n), what);
     }
 
     // ---- shares by honest throws ----
@@ -369,8 +367,7 @@ public final class BentPenny {
             throw new NoSuchElementException();
         }
         odds.mix(now.table, set, sides);
-        fraction.put(odds.restWeight(rest), odds.all);
-        return fraction.part(what);
+        return told(odds.restWeight(rest), odds.all, what);
     }
 
     public long luck(int n, int k, int what) throws NoSuchElementException {
@@ -384,8 +381,7 @@ public final class BentPenny {
                 rows += Fraction.choices(n, heads);
             }
         }
-        fraction.put(rows, 1L << n);
-        return fraction.part(what);
+        return told(rows, 1L << n, what);
     }
 
     public int runs() {
@@ -454,11 +450,15 @@ public final class BentPenny {
     // ---- the WAY as a text, and CASTS by it ----
 
     public int write() {
-        return now.way.isTold() ? script.tell(now.table, now.way) : NONE;
+        if (!now.way.isTold()) {
+            return NONE;
+        }
+        writtenSize = now.way.tellInto(written, now.table);
+        return writtenSize;
     }
 
     public int byteAt(int i) {
-        return script.at(i);
+        return isWithin(i, writtenSize) && i < written.length ? written[i] : NONE;
     }
 
     public int cast(int n, int seed) {
@@ -537,20 +537,26 @@ public final class BentPenny {
     // ---- images ----
 
     public boolean image(int k) {
-        if (!isWithin(k, images.length)) {
+        State image = imageAt(k);
+        if (image == null) {
             return false;
         }
-        images[k].copyFrom(now);
-        images[k].kept = true;
+        image.copyFrom(now);
+        image.kept = true;
         return true;
     }
 
     public boolean restore(int k) {
-        if (!isWithin(k, images.length) || !images[k].kept) {
+        State image = imageAt(k);
+        if (image == null || !image.kept) {
             return false;
         }
-        now.copyFrom(images[k]);
+        now.copyFrom(image);
         return true;
+    }
+
+    private State imageAt(int k) {
+        return isWithin(k, images.length) ? images[k] : null;
     }
 
     public int count(int what) {
@@ -574,94 +580,103 @@ public final class BentPenny {
         return i >= 0 && i < size;
     }
 
-    /** A text read TOKEN by TOKEN, and its first FAULT. */
+    /** The TOKENS of a text, the one that is read now, and the first FAULT. */
     private static final class Tokens {
         private static final int OUT = 0;
-        private static final int BAD = 1;
-        private static final int WORD = 2;
-        private static final int NUMBER = 3;
-        private static final int SIGN = 4;
+        private static final int CUT = 1;
+        private static final int BAD = 2;
+        private static final int TOLD_WORD = 3;
+        private static final int NAME = 4;
+        private static final int NUMBER = 5;
+        private static final int SIGN = 6;
         private static final int LETTERS_MOST = 6;
         private static final int DIGITS_MOST = 3;
+        private static final String TOLD_WORDS =
+                "coin open wheel end again so or and not like comes shares place knots ";
+        // "again" as pack has it, so that it is written as NAMES are
+        private static final int AGAIN = (((1 * 32 + 7) * 32 + 1) * 32 + 9) * 32 + 14;
 
         private final byte[] text;
-        private int size;
-        private int most;
-        private int behind;
+        private final int[] sorts;
+        private final int[] values;
+        private final int[] places;
+        private int many;
+        private int at;
         private int sort;
-        private int place;
         private int value;
+        private int place;
         private int fault;
         private int faultPlace;
 
         private Tokens(byte[] text) {
             this.text = text;
+            sorts = new int[TAPE_MOST + 1];
+            values = new int[TAPE_MOST + 1];
+            places = new int[TAPE_MOST + 1];
         }
 
-        private void begin(int textSize, int textMost) {
-            size = Math.min(textSize, text.length);
-            most = textMost;
-            behind = 0;
+        private void begin(int size, int most) {
+            many = 0;
             fault = 0;
             faultPlace = 0;
+            int behind = 0;
+            for (int i = 0; i < TAPE_MOST && behind < size && behind < most; i++) {
+                behind = readToken(behind, size);
+            }
+            add(size > most ? CUT : OUT, 0, Math.min(size, most));
+            at = -1;
             step();
         }
 
-        private int signAt(int i) {
-            return isWithin(i, size) && i < text.length ? text[i] & 255 : NONE;
+        private void add(int newSort, int newValue, int newPlace) {
+            if (isWithin(many, sorts.length)) {
+                sorts[many] = newSort;
+                values[many] = newValue;
+                places[many] = newPlace;
+                many++;
+            }
         }
 
-        private void step() {
-            int at = behind;
-            while (at < size && isBlank(signAt(at))) {
-                at++;
+        /** Reads a blank or a TOKEN; the place behind it. */
+        private int readToken(int from, int size) {
+            int c = isWithin(from, text.length) ? text[from] : ' ';
+            if (isLetter(c) || isDigit(c)) {
+                return readRun(from, size);
             }
-            if (at >= size || at >= most) {
-                behind = at;
-                sort = OUT;
-                place = Math.min(size, most);
-                return;
+            if (c != ' ' && c != '\n') {
+                add(isSign(c) ? SIGN : BAD, c, from);
             }
-            place = at;
-            value = signAt(at);
-            if (isLetter(value) || isDigit(value)) {
-                readRun(at);
-                return;
-            }
-            behind = at + 1;
-            sort = isSign(value) ? SIGN : BAD;
+            return from + 1;
         }
 
-        /** A run is read whole, also past the most bytes told: so the document has it. */
-        private void readRun(int from) {
+        /** Reads a run whole, also past the most bytes told: so the document has it. */
+        private int readRun(int from, int size) {
             int letters = 0;
             int digits = 0;
             int word = 0;
             int number = 0;
-            int at = from;
-            while (at < size && (isLetter(signAt(at)) || isDigit(signAt(at)))) {
-                if (isLetter(signAt(at))) {
+            int behind = from;
+            while (behind < size && behind < text.length) {
+                int c = text[behind];
+                if (isLetter(c)) {
                     letters++;
-                    word = pack(word, signAt(at));
-                } else {
+                    word = pack(word, c);
+                } else if (isDigit(c)) {
                     digits++;
-                    number = number * 10 + signAt(at) - '0';
+                    number = number * 10 + c - '0';
+                } else {
+                    break;
                 }
-                at++;
+                behind++;
             }
-            behind = at;
-            sort = BAD;
             if (digits == 0 && letters <= LETTERS_MOST) {
-                sort = WORD;
-                value = word;
+                add(isToldWord(word) ? TOLD_WORD : NAME, word, from);
             } else if (letters == 0 && digits <= DIGITS_MOST) {
-                sort = NUMBER;
-                value = number;
+                add(NUMBER, number, from);
+            } else {
+                add(BAD, 0, from);
             }
-        }
-
-        private static boolean isBlank(int c) {
-            return c == 32 || c == 10;
+            return behind;
         }
 
         private static boolean isLetter(int c) {
@@ -681,23 +696,43 @@ public final class BentPenny {
             return word * 32 + letter - 'a' + 1;
         }
 
+        private static boolean isToldWord(int word) {
+            int told = 0;
+            for (int i = 0; i < TOLD_WORDS.length(); i++) {
+                if (TOLD_WORDS.charAt(i) != ' ') {
+                    told = pack(told, TOLD_WORDS.charAt(i));
+                } else if (told == word) {
+                    return true;
+                } else {
+                    told = 0;
+                }
+            }
+            return false;
+        }
+
+        private void step() {
+            if (isWithin(at + 1, many) && at + 1 < sorts.length) {
+                at++;
+                sort = sorts[at];
+                value = values[at];
+                place = places[at];
+            }
+        }
+
         private boolean is(String word) {
             int packed = 0;
             for (int i = 0; i < word.length(); i++) {
                 packed = pack(packed, word.charAt(i));
             }
-            return sort == WORD && value == packed;
-        }
-
-        private boolean isOneOf(String a, String b, String c, String d) {
-            return is(a) || is(b) || is(c) || is(d);
+            return sort == TOLD_WORD && value == packed;
         }
 
         private boolean isName() {
-            return sort == WORD && !isOneOf("coin", "open", "wheel", "end")
-                    && !isOneOf("again", "so", "or", "and")
-                    && !isOneOf("not", "like", "comes", "shares")
-                    && !is("place") && !is("knots");
+            return sort == NAME;
+        }
+
+        private boolean isNumber() {
+            return sort == NUMBER;
         }
 
         private boolean isSigned(char sign) {
@@ -705,7 +740,7 @@ public final class BentPenny {
         }
 
         private boolean isOut() {
-            return sort == OUT;
+            return sort == OUT || sort == CUT;
         }
 
         /** Notes a FAULT at the TOKEN that is read; false, for the reader to hand on. */
@@ -734,7 +769,7 @@ public final class BentPenny {
         }
 
         private boolean isDone() {
-            return sort == OUT && size <= most || fail(CANT_COME);
+            return sort == OUT || fail(CANT_COME);
         }
     }
 
@@ -787,11 +822,11 @@ public final class BentPenny {
         }
 
         private boolean hasThing(int t) {
-            return isWithin(t, things) && t < THINGS;
+            return t >= 0 && t < things && t < THINGS;
         }
 
         private boolean hasEnd(int e) {
-            return isWithin(e, ends) && e < ENDS;
+            return e >= 0 && e < ends && e < ENDS;
         }
 
         private boolean hasShare(int e) {
@@ -963,7 +998,7 @@ public final class BentPenny {
             }
             int many = 0;
             int sum = 0;
-            while (many < 2 || text.sort == Tokens.NUMBER) {
+            while (many <= SIDES && (many < 2 || text.isNumber())) {
                 if (!text.holdsNumber(1, 9 - sum)) {
                     return false;
                 }
@@ -1048,7 +1083,7 @@ public final class BentPenny {
         }
 
         private boolean hasNode(int k) {
-            return isWithin(k, nodes) && k < NODES;
+            return k >= 0 && k < nodes && k < NODES;
         }
 
         private int sortAt(int k) {
@@ -1118,6 +1153,61 @@ public final class BentPenny {
                 next[from * SIDES + side] = k;
             }
             return k;
+        }
+
+        /** How many bytes the text of the WAY has; no brackets are kept, so they are found by the SIDES. */
+        private int tellInto(byte[] text, Table table) {
+            int size = 0;
+            for (int k = 0; k < nodes && k < NODES; k++) {
+                if (k > 0) {
+                    size = put(text, size, onSide[k] == 0 ? '(' : ':');
+                }
+                if (sort[k] == SORT_AGAIN) {
+                    size = putName(text, size, Tokens.AGAIN);
+                } else if (sort[k] == SORT_END) {
+                    size = putName(text, size, table.nameOfEnd(which[k]));
+                } else {
+                    size = putName(text, size, table.nameOfThing(which[k]));
+                }
+                if (sort[k] != SORT_THING) {
+                    size = putClosings(text, size, table, k);
+                }
+            }
+            return size;
+        }
+
+        private static int put(byte[] text, int size, int sign) {
+            if (!isWithin(size, text.length)) {
+                return size;
+            }
+            text[size] = (byte) sign;
+            return size + 1;
+        }
+
+        private static int putName(byte[] text, int size, int name) {
+            int behind = size;
+            for (int shift = 25; shift >= 0; shift -= 5) {
+                int letter = name >> shift & 31;
+                if (letter != 0) {
+                    behind = put(text, behind, 'a' - 1 + letter);
+                }
+            }
+            return behind;
+        }
+
+        /** Closes the THINGS of which this NODE is the last, from the inmost on. */
+        private int putClosings(byte[] text, int size, Table table, int k) {
+            int behind = size;
+            int at = k;
+            for (int up = 0; up < DEEP; up++) {
+                int from = parentOf(at);
+                if (from == NONE || sideTo(at) != table.sidesOf(whichAt(from)) - 1) {
+                    return behind;
+                }
+                behind = put(text, behind, ')');
+                at = from;
+            }
+            return behind;
         }
 
         private boolean read(Tokens text, Table table) {
@@ -1292,11 +1382,12 @@ public final class BentPenny {
             }
             int comparing = text.value;
             text.step();
-            if (!text.holdsNumber(0, 999) || !add(fact, comparing, text.value)) {
-                return false;
+            if (!text.isNumber()) {
+                return text.fail(CANT_COME);
             }
+            int than = text.value;
             text.step();
-            return true;
+            return add(fact, comparing, than);
         }
 
         private boolean readLike(Tokens text, Table table) {
@@ -1952,12 +2043,16 @@ public final class BentPenny {
          * as openRows. From place twos on these come again every period places.
          */
         private static void tellFewest(Table table, Fraction fraction) {
-            int whole = table.shareBelow(0);
-            int twos = Integer.numberOfTrailingZeros(whole);
-            int period = periodOfTwo(whole >> Math.min(twos, 30));
+            int odd = table.shareBelow(0);
+            int twos = 0;
+            while (twos < 5 && (odd & 1) == 0) {
+                odd >>= 1;
+                twos++;
+            }
+            int period = periodOfTwo(odd);
             long turn = (1L << period) - 1;
             long sum = 0;
-            for (int i = 0; i < twos && i < 30; i++) {
+            for (int i = 0; i < twos; i++) {
                 sum += (openRows(table, i) << twos - i) * turn;
             }
             for (int j = 0; j < period; j++) {
@@ -2151,80 +2246,6 @@ public final class BentPenny {
                 way.add(SORT_AGAIN, NONE, from, side);
             } else {
                 way.add(SORT_END, leaf, from, side);
-            }
-        }
-    }
-
-    /** The text made last. */
-    private static final class Script {
-        private final byte[] text;
-        private int size;
-
-        private Script() {
-            text = new byte[WAY_MOST];
-        }
-
-        private int at(int i) {
-            return isWithin(i, size) && i < text.length ? text[i] : NONE;
-        }
-
-        private void put(int sign) {
-            if (isWithin(size, text.length)) {
-                text[size] = (byte) sign;
-                size++;
-            }
-        }
-
-        private int tell(Table table, Way way) {
-            size = 0;
-            for (int k = 0; k < way.nodes; k++) {
-                if (k > 0) {
-                    put(way.sideTo(k) == 0 ? '(' : ':');
-                }
-                putNode(table, way, k);
-                if (way.sortAt(k) != SORT_THING) {
-                    putClosings(table, way, k);
-                }
-            }
-            return size;
-        }
-
-        private void putNode(Table table, Way way, int k) {
-            if (way.sortAt(k) == SORT_AGAIN) {
-                putWord("again");
-            } else if (way.sortAt(k) == SORT_END) {
-                putName(table.nameOfEnd(way.whichAt(k)));
-            } else {
-                putName(table.nameOfThing(way.whichAt(k)));
-            }
-        }
-
-        private void putWord(String word) {
-            for (int i = 0; i < word.length(); i++) {
-                put(word.charAt(i));
-            }
-        }
-
-        private void putName(int name) {
-            for (int shift = 25; shift >= 0; shift -= 5) {
-                int letter = name >> shift & 31;
-                if (letter != 0) {
-                    put('a' - 1 + letter);
-                }
-            }
-        }
-
-        /** Closes the THINGS of which this NODE is the last, from the inmost on. */
-        private void putClosings(Table table, Way way, int k) {
-            int at = k;
-            for (int up = 0; up < DEEP; up++) {
-                int from = way.parentOf(at);
-                int sides = table.sidesOf(way.whichAt(from));
-                if (from == NONE || way.sideTo(at) != sides - 1) {
-                    return;
-                }
-                put(')');
-                at = from;
             }
         }
     }
