@@ -2135,6 +2135,9 @@ public final class BentPenny {
         private int coin;
         private int onHead;
         private int onTail;
+        private final long[] first;
+        private final long[] second;
+        private final long[] whole;
         private boolean found;
         private long leastAbove;
         private long leastBelow;
@@ -2144,13 +2147,21 @@ public final class BentPenny {
 
         private Best() {
             mean = new Fraction();
+            first = new long[CHOICES];
+            second = new long[CHOICES];
+            whole = new long[CHOICES];
         }
 
         private int search(Table table) {
             found = false;
+            for (int choice = 0; choice < CHOICES; choice++) {
+                first[choice] = partOf(table, choice, 0);
+                second[choice] = partOf(table, choice, 1);
+                whole[choice] = wholeOf(table, choice);
+            }
             for (int t = 0; t < table.things && table.ends >= 2; t++) {
                 if (table.isClosedCoin(t)) {
-                    searchCoin(table, t);
+                    searchCoin(t, table.partsOf(t, 0), table.partsOf(t, 1));
                 }
             }
             if (!found || !mean.put(leastAbove, leastBelow)) {
@@ -2160,17 +2171,45 @@ public final class BentPenny {
             coin = foundCoin;
             onHead = foundHead;
             onTail = foundTail;
-            return 3 + (onHead < LEAVES ? 0 : 2) + (onTail < LEAVES ? 0 : 2);
+            return 3 + 2 * thrownAfter(onHead) + 2 * thrownAfter(onTail);
         }
 
-        private void searchCoin(Table table, int t) {
+        private void searchCoin(int t, int heads, int tails) {
             for (int head = 0; head < CHOICES; head++) {
-                for (int tail = 0; tail < CHOICES; tail++) {
-                    if (isChoice(table, head) && isChoice(table, tail)) {
-                        weigh(table, t, head, tail);
+                for (int tail = 0; tail < CHOICES && whole[head] > 0; tail++) {
+                    if (whole[tail] > 0) {
+                        weigh(t, heads, tails, head, tail);
                     }
                 }
             }
+        }
+
+        /** Keeps the WAY if it is even and has a lesser MEAN than what was found ahead of it. */
+        private void weigh(int t, int heads, int tails, int head, int tail) {
+            if (!isWithin(head, CHOICES) || !isWithin(tail, CHOICES)) {
+                return;
+            }
+            long headWeight = heads * whole[tail];
+            long tailWeight = tails * whole[head];
+            long half = headWeight * first[head] + tailWeight * first[tail];
+            if (half == 0 || half != headWeight * second[head] + tailWeight * second[tail]) {
+                return;
+            }
+            int tosses = heads * (1 + thrownAfter(head)) + tails * (1 + thrownAfter(tail));
+            long above = tosses * whole[head] * whole[tail];
+            long below = 2 * half;
+            if (!found || above * leastBelow < leastAbove * below) {
+                found = true;
+                leastAbove = above;
+                leastBelow = below;
+                foundCoin = t;
+                foundHead = head;
+                foundTail = tail;
+            }
+        }
+
+        private static int thrownAfter(int choice) {
+            return choice < LEAVES ? 0 : 1;
         }
 
         private static int secondCoin(int choice) {
@@ -2182,45 +2221,23 @@ public final class BentPenny {
             return side == 0 ? leaves / LEAVES : leaves % LEAVES;
         }
 
-        private static boolean isChoice(Table table, int choice) {
-            return choice < LEAVES || table.isClosedCoin(secondCoin(choice));
+        /** All parts of what stands there; 0, if it is a coin that can't. */
+        private static int wholeOf(Table table, int choice) {
+            if (choice < LEAVES) {
+                return 1;
+            }
+            int after = secondCoin(choice);
+            return table.isClosedCoin(after) ? table.allParts(after) : 0;
         }
 
-        private static long wholeOf(Table table, int choice) {
-            return choice < LEAVES ? 1 : table.allParts(secondCoin(choice));
-        }
-
-        private static long partOf(Table table, int choice, int leaf) {
+        private static int partOf(Table table, int choice, int leaf) {
             if (choice < LEAVES) {
                 return choice == leaf ? 1 : 0;
             }
-            int second = secondCoin(choice);
-            long head = leafOn(choice, 0) == leaf ? table.partsOf(second, 0) : 0;
-            long tail = leafOn(choice, 1) == leaf ? table.partsOf(second, 1) : 0;
+            int after = secondCoin(choice);
+            int head = leafOn(choice, 0) == leaf ? table.partsOf(after, 0) : 0;
+            int tail = leafOn(choice, 1) == leaf ? table.partsOf(after, 1) : 0;
             return head + tail;
-        }
-
-        /** Keeps the WAY if it is even and has a lesser MEAN than what was found ahead of it. */
-        private void weigh(Table table, int t, int head, int tail) {
-            long heads = table.partsOf(t, 0) * wholeOf(table, tail);
-            long tails = table.partsOf(t, 1) * wholeOf(table, head);
-            long first = heads * partOf(table, head, 0) + tails * partOf(table, tail, 0);
-            long second = heads * partOf(table, head, 1) + tails * partOf(table, tail, 1);
-            if (first != second || first == 0) {
-                return;
-            }
-            long tosses = table.allParts(t) + (head < LEAVES ? 0 : table.partsOf(t, 0))
-                    + (tail < LEAVES ? 0 : table.partsOf(t, 1));
-            long above = tosses * wholeOf(table, head) * wholeOf(table, tail);
-            long below = first + second;
-            if (!found || above * leastBelow < leastAbove * below) {
-                found = true;
-                leastAbove = above;
-                leastBelow = below;
-                foundCoin = t;
-                foundHead = head;
-                foundTail = tail;
-            }
         }
 
         private void build(Way way) {
@@ -2228,7 +2245,7 @@ public final class BentPenny {
             int root = way.add(SORT_THING, coin, NONE, 0);
             buildSide(way, root, 0, onHead);
             buildSide(way, root, 1, onTail);
-            way.deepest = onHead < LEAVES && onTail < LEAVES ? 1 : 2;
+            way.deepest = 1 + Math.max(thrownAfter(onHead), thrownAfter(onTail));
         }
 
         private static void buildSide(Way way, int from, int side, int choice) {
