@@ -150,6 +150,10 @@ final class WaysTest {
         t.due("END -1", x.like(-1, 0), NONE);
         t.due("not LIKE", by("p(x:y)").like(0, 1), 0);
         t.due("like without a WAY", Bench.withTable(Bench.TABLE).like(0, 0), NONE);
+        BentPenny six = by("p(p(p(p(p(p(x:again):again):again):again):again):again)");
+        t.due("not LIKE by the sixth power alone", six.like(0, 1), 0);
+        Bench.tape(six, "comes").sentence();
+        t.due("it comes by the sixth power alone", six.said(NONE), 1);
         t.due("even", x.even(), 1);
         t.due("not even", by("p(x:y)").even(), 0);
         t.due("even by throws of a wheel", by("w(x:y:q(y:x))").even(), 1);
@@ -263,6 +267,9 @@ final class WaysTest {
         best("end y;coin q 1 3;wheel w 1 1;coin p open;end x;", "q(q(again:y):q(y:x))", 7, 9, 4);
         best("coin q 2 3;end x;end y;", "q(q(x:y):q(y:again))", 7, 9, 4);
         best("coin a 1 5;coin b 1 4;end x;end y;", "a(x:b(y:again))", 5, 9, 2);
+        best("coin a 2 3;coin b 1 4;end x;end y;", "a(b(x:y):x)", 5, 5, 3);
+        best("coin a 2 8;coin b 4 6;end x;end y;", "b(a(x:y):x)", 5, 5, 3);
+        best("coin a 1 8;wheel w 1 1;coin b 4 7;end x;end y;", "b(a(x:y):x)", 5, 11, 7);
         t.due("without coins", Bench.withTable("end x;end y;").best(), NONE);
         t.due("wheels are no coins", Bench.withTable("wheel w 1 1;end x;end y;").best(), NONE);
         t.due("an open coin alone", Bench.withTable("coin p open;end x;end y;").best(), NONE);
@@ -278,6 +285,15 @@ final class WaysTest {
         t.none("only NONE so far", () -> x.bestMean(0));
         Bench.tape(x, "coin q 1 6;end x;end y;").table();
         x.best();
+        x.take();
+        int[] sorts = {2, 2, 1, 0, 2, 0, 1};
+        int[] whiches = {0, 0, NONE, 0, 0, 1, NONE};
+        for (int k = 0; k < sorts.length; k++) {
+            t.due("node " + k + " of the best", x.node(k), sorts[k]);
+            t.due("nodeOf " + k + " of the best", x.nodeOf(k), whiches[k]);
+        }
+        t.due("next of the best", x.next(4, 1), 6);
+        t.due("next of its END", x.next(3, 0), NONE);
         Bench.tape(x, "coin q 1 6;end x;").table();
         t.due("NONE now", x.best(), NONE);
         t.fraction("the latest that was not NONE", () -> x.bestMean(0), () -> x.bestMean(1), 36, 5);
