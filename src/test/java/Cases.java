@@ -104,6 +104,7 @@ final class Cases {
     static void fraction(String call, BentPenny x, Parts of, long above, long below) {
         due(call + " above", x, o -> of.of(o, 0), above);
         due(call + " below", x, o -> of.of(o, 1), below);
+        due(call + " above once more", x, o -> of.of(o, 0), above);
     }
 
     static void bits(String call, BentPenny x, int many, String want) {

@@ -13,6 +13,27 @@ final class EdgesOfChancesTest {
                 (x, what) -> x.chance(end, what), above, below);
     }
 
+    private static final String FULL_TABLE = "wheel w 1 1 1 1 1 1;wheel v 1 1 1;coin q 1 2;end x;end y;";
+
+    /** A WAY of 80 NODES, the last of them on the last SIDE of the first THING. */
+    private static String fullWay(String last) {
+        String seven = "w(x:x:x:x:x:x)";
+        String many = "w(" + Bench.times(seven + ":", 5) + seven + ")";
+        String fewer = "w(" + Bench.times(seven + ":", 4) + "q(x:x):q(x:x))";
+        return "v(" + many + ":" + fewer + ":" + last + ")";
+    }
+
+    static void promise14_chance_ofTheLastOf80Nodes() {
+        Cases.nodes(FULL_TABLE, fullWay("y"), 80);
+        chance(FULL_TABLE, fullWay("y"), 0, 2, 3);
+        chance(FULL_TABLE, fullWay("y"), 1, 1, 3);
+        chance(FULL_TABLE, fullWay("again"), 0, 1, 1);
+        mean(FULL_TABLE, fullWay("y"), 0, 1, 7, 3);
+        mean(FULL_TABLE, fullWay("again"), 0, 1, 7, 2);
+        poly(Bench.withWay(FULL_TABLE, fullWay("y")), 1, 0, 1, 3);
+        poly(Bench.withWay(FULL_TABLE, fullWay("again")), NONE, 0, 1, 3);
+    }
+
     // ---- Promise 14: chance ----
 
     static void promise14_chance_ofAnEndThatNeverComes() {
@@ -128,6 +149,19 @@ final class EdgesOfChancesTest {
         Cases.due("10 of 9", Cases.opened(), x -> x.chanceAt(0, 10, 9, 0), Cases.THROWS);
         for (int k : OFF) {
             Cases.due("k " + k, Cases.opened(), x -> x.chanceAt(0, k, 9, 0), Cases.THROWS);
+        }
+    }
+
+    static void promise15_chanceAt_noSuchBendOfAnyWay() {
+        int[][] none = {{0, 0}, {-1, -1}, {-1, 1}, {-1, 2}, {-1, 9}, {2, 1}, {3, 2}, {10, 9}, {0, 10}, {10, 10}, {1, -1},
+            {0, -1}, {1, 0}};
+        for (String way : new String[] {"p(x:y)", "p(x:p(y:x))", "q(x:y)", "x"}) {
+            for (int[] bend : none) {
+                BentPenny x = Bench.withWay(Bench.TABLE, way);
+                String by = " of " + way + " by " + bend[0] + " of " + bend[1];
+                Cases.due("CHANCE" + by, x, o -> o.chanceAt(0, bend[0], bend[1], 0), Cases.THROWS);
+                Cases.due("MEAN" + by, x, o -> o.mean(bend[0], bend[1], 1), Cases.THROWS);
+            }
         }
     }
 
@@ -396,6 +430,13 @@ final class EdgesOfChancesTest {
 
     static void promise19_even_eachComesByABendButNotByEvery() {
         Cases.due("even()", Bench.withWay("coin p open;end x;", "p(x:again)").even(), 1);
+    }
+
+    static void promise19_even_theOneEndComesByTheSixthPowerAlone() {
+        BentPenny x = Bench.withWay("coin p open;end x;", "p(p(p(p(p(p(x:again):again):again):again):again):again)");
+        Cases.due("even()", x.even(), 1);
+        Bench.tape(x, "comes").sentence();
+        Cases.due("comes", x.said(NONE), 1);
     }
 
     static void promise19_even_allLikeButNoneComes() {

@@ -1,3 +1,5 @@
+import java.math.BigInteger;
+
 /** The cases at the edges of promises 22 to 36: BITS out of ROWS, shares, mixed THINGS, LUCK and RUNS. */
 final class EdgesOfRowsTest {
     private static final int NONE = BentPenny.NONE;
@@ -29,12 +31,21 @@ final class EdgesOfRowsTest {
         }
     }
 
+    /** Objects with this TABLE: a new one, and such that have read long ROWS ahead. */
+    private static BentPenny[] readers(String table) {
+        BentPenny[] readers = {Bench.withTable(table), Bench.withTable(table), Bench.withTable(table)};
+        Bench.tape(readers[1], times("h", 600)).spared();
+        Bench.tape(readers[2], times("t", 600)).spared();
+        return readers;
+    }
+
     // ---- Promise 22: pairs ----
 
     private static void pairs(String row, String bits) {
-        BentPenny x = Cases.withTape(row);
-        Cases.bits("pairs() of " + row, x, x.pairs(), bits);
-        Cases.due("the tape", x.count(4), 0);
+        for (BentPenny x : readers("")) {
+            Cases.bits("pairs() of " + row, x, Bench.tape(x, row).pairs(), bits);
+            Cases.due("the tape", x.count(4), 0);
+        }
     }
 
     static void promise22_pairs_ofNothing() {
@@ -75,9 +86,10 @@ final class EdgesOfRowsTest {
     // ---- Promise 23: spared ----
 
     private static void spared(String row, String bits) {
-        BentPenny x = Cases.withTape(row);
-        Cases.bits("spared() of " + row, x, x.spared(), bits);
-        Cases.due("the tape", x.count(4), 0);
+        for (BentPenny x : readers("")) {
+            Cases.bits("spared() of " + row, x, Bench.tape(x, row).spared(), bits);
+            Cases.due("the tape", x.count(4), 0);
+        }
     }
 
     static void promise23_spared_ofFewerThanTwo() {
@@ -166,9 +178,10 @@ final class EdgesOfRowsTest {
     // ---- Promise 24: pasts ----
 
     private static void pasts(String row, String bits) {
-        BentPenny x = Cases.withTape(row);
-        Cases.bits("pasts() of " + row, x, x.pasts(), bits);
-        Cases.due("the tape", x.count(4), 0);
+        for (BentPenny x : readers("")) {
+            Cases.bits("pasts() of " + row, x, Bench.tape(x, row).pasts(), bits);
+            Cases.due("the tape", x.count(4), 0);
+        }
     }
 
     static void promise24_pasts_ofNothingAndOneThrow() {
@@ -182,7 +195,11 @@ final class EdgesOfRowsTest {
         pasts("hht", "");
         // behind h: h t h, the h is the last of them; behind t: h
         pasts("hhthh", "1");
-        // behind h: t h; behind t: h h
+        // behind h: h t, the t is the last of them; behind t: h
+        pasts("hhth", "");
+        // behind h: h t; behind t: t h, the h is the last of them
+        pasts("tthht", "");
+        // behind h: t t h; behind t: h h h
         pasts("thththh", "");
     }
 
@@ -218,9 +235,10 @@ final class EdgesOfRowsTest {
     // ---- Promise 25: counted ----
 
     private static void counted(String row, String bits) {
-        BentPenny x = Cases.withTape(row);
-        Cases.bits("counted() of " + row, x, x.counted(), bits);
-        Cases.due("the tape", x.count(4), 0);
+        for (BentPenny x : readers("")) {
+            Cases.bits("counted() of " + row, x, Bench.tape(x, row).counted(), bits);
+            Cases.due("the tape", x.count(4), 0);
+        }
     }
 
     static void promise25_counted_ofOneThrow() {
@@ -420,10 +438,11 @@ final class EdgesOfRowsTest {
     // ---- Promises 28 and 29: shared, took ----
 
     private static void shared(String table, String row, int end, int took) {
-        BentPenny x = Bench.withTable(table);
-        Cases.due("shared() of " + row, Bench.tape(x, row).shared(), end);
-        Cases.due("took() of " + row, x.took(), took);
-        Cases.due("the tape", x.count(4), 0);
+        for (BentPenny x : readers(table)) {
+            Cases.due("shared() of " + row, Bench.tape(x, row).shared(), end);
+            Cases.due("took() of " + row, x.took(), took);
+            Cases.due("the tape", x.count(4), 0);
+        }
     }
 
     static void promise28_shared_byNoThrowWhereAnEndHasAll() {
@@ -570,6 +589,44 @@ final class EdgesOfRowsTest {
         // 1 of 20 is .00 0011 0011 .., 19 of 20 is .11 1100 1100 ..: one row of those open at each place
         fewest("end a 1 20;end b 19 20;", 2, 1);
         fewest("end a 5 20;end b 15 20;", 3, 2);
+    }
+
+    /** The mean by the rests of all shares, place by place, till they come again. */
+    private static void fewestByRests(int whole, int... shares) {
+        StringBuilder table = new StringBuilder();
+        for (int e = 0; e < shares.length; e++) {
+            table.append("end ").append((char) ('a' + e)).append(' ').append(shares[e]).append(' ').append(whole).append(';');
+        }
+        // the first five places, and the 360 behind them that come again: each period by M to 20 divides 360
+        BigInteger turn = BigInteger.ONE.shiftLeft(360).subtract(BigInteger.ONE);
+        BigInteger sum = BigInteger.ZERO;
+        for (int i = 0; i < 5; i++) {
+            sum = sum.add(turn.shiftLeft(5 - i).multiply(BigInteger.valueOf(openRows(whole, i, shares))));
+        }
+        for (int i = 0; i < 360; i++) {
+            sum = sum.add(BigInteger.ONE.shiftLeft(360 - i).multiply(BigInteger.valueOf(openRows(whole, i + 5, shares))));
+        }
+        BigInteger below = turn.shiftLeft(5);
+        BigInteger divisor = sum.gcd(below);
+        fewest(table.toString(), sum.divide(divisor).longValueExact(), below.divide(divisor).longValueExact());
+    }
+
+    private static long openRows(int whole, int places, int... shares) {
+        BigInteger m = BigInteger.valueOf(whole);
+        long rests = 0;
+        for (int k : shares) {
+            rests += BigInteger.valueOf(k).shiftLeft(places).mod(m).longValue();
+        }
+        return rests / whole;
+    }
+
+    static void promise30_fewest_ofEachMTo20() {
+        for (int m = 1; m <= 20; m++) {
+            fewestByRests(m, 1, m - 1);
+            fewestByRests(m, m / 3, m - m / 3);
+            fewestByRests(m, m / 2, m / 3, m - m / 2 - m / 3);
+            fewestByRests(m, m / 6, m / 6, m / 6, m / 6, m / 6, m - 5 * (m / 6));
+        }
     }
 
     static void promise30_fewest_noShares() {
@@ -852,10 +909,11 @@ final class EdgesOfRowsTest {
     // ---- Promises 35 and 36: runs, seldom ----
 
     private static void runs(String row, int runs, long above, long below) {
-        BentPenny x = Cases.withTape(row);
-        Cases.due("runs() of " + row, x.runs(), runs);
-        Cases.due("the tape", x.count(4), 0);
-        Cases.fraction("how seldom " + row + " is", x, (o, what) -> o.seldom(what), above, below);
+        for (BentPenny x : readers("")) {
+            Cases.due("runs() of " + row, Bench.tape(x, row).runs(), runs);
+            Cases.due("the tape", x.count(4), 0);
+            Cases.fraction("how seldom " + row + " is", x, (o, what) -> o.seldom(what), above, below);
+        }
     }
 
     static void promise35_runs_ofOneThrow() {

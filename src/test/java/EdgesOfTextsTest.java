@@ -218,6 +218,25 @@ final class EdgesOfTextsTest {
         Cases.due("RUNS", x.runs(), 2);
     }
 
+    static void promise3_end_whatWasCutIsReadByNoCall() {
+        BentPenny x = Cases.withTape("end xend y;");
+        x.end(5);
+        Cases.due("a TABLE cut within a WORD", x.table(), -1 - 5);
+        Bench.tape(x, "end x;coin q 1 23;").end(16);
+        Cases.due("a TABLE cut within a NUMBER", x.table(), -1 - 16);
+        x.feed(0x656e6420, 0x783b6161, 0x61616161, 0x61616161, 0x61616161);
+        x.end(6);
+        Cases.due("a TABLE", x.table(), 1);
+        Bench.tape(x, "xxxxxxxxxx").end(1);
+        Cases.due("a WAY", x.way(), 1);
+        Bench.tape(x, "so x;so x;").end(5);
+        Cases.due("an EVENING", x.evening(), NONE);
+        Bench.tape(x, "place<9999").end(8);
+        Cases.due("a SENTENCE", x.sentence(), 1);
+        Bench.tape(x, "htxxxx").end(2);
+        Cases.due("a ROW", x.pairs(), 1);
+    }
+
     // ---- Promise 4: table ----
 
     static void promise4_table_howManyLines() {
@@ -497,6 +516,19 @@ final class EdgesOfTextsTest {
         Cases.due("NODE 1", x.nodeOf(1), 1);
     }
 
+    static void promise9_way_aNewOneForgetsSixSides() {
+        BentPenny x = Bench.withWay("wheel w 1 1 1 1 1 1;coin q 1 2;end a;", "w(w(a:a:a:a:a:a):a:a:a:a:a)");
+        Bench.tape(x, "q(q(a:a):a)").way();
+        for (int side = 2; side < 6; side++) {
+            Cases.due("SIDE " + side + " of NODE 0", x.next(0, side), NONE);
+            Cases.due("SIDE " + side + " of NODE 1", x.next(1, side), NONE);
+        }
+        Bench.tape(x, "a").way();
+        for (int side = 0; side < 6; side++) {
+            Cases.due("SIDE " + side + " of an END", x.next(0, side), NONE);
+        }
+    }
+
     // ---- Promises 10 to 13: node, nodeOf, next, deep ----
 
     private static final String MIXED_WAY = "p(w(again:x:q(x:y)):y)";
@@ -566,6 +598,20 @@ final class EdgesOfTextsTest {
         Cases.due("SIDE 6", x.next(0, 6), NONE);
         Cases.due("SIDE 6 of the inner one", x.next(3, 6), NONE);
         Cases.due("SIDE -1 of the inner one", x.next(3, -1), NONE);
+    }
+
+    static void promise12_next_ofThingsFarBehind() {
+        String thirteen = "w(w(a:a:a:a:a:a):a:a:a:a:a)";
+        BentPenny x = Bench.withWay("wheel w 1 1 1 1 1 1;end a;", "w(" + Bench.times(thirteen + ":", 5) + thirteen + ")");
+        x.image(0);
+        Bench.tape(x, "a").way();
+        x.restore(0);
+        for (int side = 0; side < 6; side++) {
+            Cases.due("SIDE " + side + " of NODE 0", x.next(0, side), 1 + 13 * side);
+            Cases.due("SIDE " + side + " of NODE 66", x.next(66, side), side == 0 ? 67 : 73 + side);
+            Cases.due("SIDE " + side + " of NODE 67", x.next(67, side), 68 + side);
+            Cases.due("SIDE " + side + " of NODE 78", x.next(78, side), NONE);
+        }
     }
 
     static void promise12_next_itIsNoThing() {

@@ -52,6 +52,17 @@ final class EdgesOfWaysTest {
         best("coin q 2 3;end x;end y;", "q(q(x:y):q(y:again))", 7, 9, 4);
     }
 
+    static void promise37_best_ofLikeOnesTheFirstByEachStep() {
+        // as good: b(y:again) for END 1 ahead of END 0
+        best("coin a 5 8;coin b 3 5;end x;end y;", "a(b(x:again):y)", 5, 13, 6);
+        // as good: b for the first coin, and y ahead of x
+        best("coin a 5 7;coin b 5 8;coin c 1 8;end x;end y;", "a(b(x:y):b(y:again))", 7, 56, 25);
+        // as good: c, the later coin
+        best("coin a 5 8;coin b 2 5;coin c 3 5;end x;end y;", "a(b(again:x):y)", 5, 13, 6);
+        // as good: a(a(again:x):a(y:again)), by AGAIN ahead of END 0
+        best("coin a 1 4;coin b 5 6;end x;end y;", "a(a(x:y):b(again:x))", 7, 16, 3);
+    }
+
     static void promise37_best_thirdsOfAnotherCoin() {
         best("coin a 1 8;coin b 4 7;end x;end y;", "b(a(x:y):x)", 5, 11, 7);
     }
@@ -419,6 +430,48 @@ final class EdgesOfWaysTest {
         Cases.due("by two", x.cast(2, 9), NONE);
         Cases.due("by three", x.cast(3, 9), 0);
         Cases.due("its throws", x.tosses(), 3);
+    }
+
+    /** How many throws a CAST by threeNinths() takes till it ends. */
+    private static int tossesTillEnd(int seed) {
+        int x = seed;
+        int row = 0;
+        int tosses = 0;
+        while (row < 3) {
+            x = following(x);
+            row = draw(x, 9) < 1 ? row + 1 : 0;
+            tosses++;
+        }
+        return tosses;
+    }
+
+    private static int seedThatTakes(int tosses) {
+        int seed = 0;
+        while (tossesTillEnd(seed) != tosses) {
+            seed++;
+        }
+        return seed;
+    }
+
+    private static BentPenny threeNinths() {
+        return Bench.withWay("coin q 1 9;end a;", "q(q(q(a:again):again):again)");
+    }
+
+    static void promise42_cast_whatEndsByThrow400And401() {
+        int by400 = seedThatTakes(400);
+        int by401 = seedThatTakes(401);
+        BentPenny x = threeNinths();
+        Cases.due("by throw 400", x.cast(400, by400), 0);
+        Cases.due("its throws", x.tosses(), 400);
+        Cases.due("by throw 399", x.cast(399, by400), NONE);
+        Cases.due("its throws", x.tosses(), 399);
+        Cases.due("not by throw 400", x.cast(400, by401), NONE);
+        Cases.due("its throws", x.tosses(), 400);
+    }
+
+    static void promise44_casts_whatEndsByThrow400And401() {
+        Cases.due("by throw 400", threeNinths().casts(1, seedThatTakes(400), 0), 1);
+        Cases.due("by throw 401", threeNinths().casts(1, seedThatTakes(401), 0), 0);
     }
 
     static void promise42_cast_withoutAnyThrow() {
