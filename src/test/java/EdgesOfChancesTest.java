@@ -53,6 +53,20 @@ final class EdgesOfChancesTest {
         chance("wheel w 1 1 1 1 1 4;end a;end b;end c;end d;end e;end f;", "w(a:b:c:d:e:f)", 0, 1, 9);
     }
 
+    static void promise14_chance_askedAgainAndAgain() {
+        BentPenny x = Bench.withWay("coin q 1 2;end a;end b;end c;end d;end e;end f;", "q(f:a)");
+        for (int turn = 0; turn < 3; turn++) {
+            for (int end = 0; end < 6; end++) {
+                int at = end;
+                Cases.fraction("CHANCE of " + end, x, (o, what) -> o.chance(at, what), end % 5 == 0 ? 1 : 0,
+                        end % 5 == 0 ? 2 : 1);
+                Cases.fraction("poly of " + end, x, (o, what) -> o.poly(at, 0, what), end % 5 == 0 ? 1 : 0,
+                        end % 5 == 0 ? 2 : 1);
+            }
+            Cases.fraction("MEAN", x, (o, what) -> o.mean(1, 2, what), 1, 1);
+        }
+    }
+
     static void promise14_chance_theLeastOfSixNinths() {
         chance("coin q 1 9;end x;end y;", "q(q(q(q(q(q(x:y):y):y):y):y):y)", 0, 1, 531441);
     }
@@ -152,16 +166,22 @@ final class EdgesOfChancesTest {
         }
     }
 
+    private static void noSuchBend(String table, String way, int k, int m) {
+        BentPenny x = Bench.withWay(table, way);
+        String by = " of " + way + " by " + k + " of " + m;
+        Cases.due("CHANCE" + by, x, o -> o.chanceAt(0, k, m, 0), Cases.THROWS);
+        Cases.due("MEAN" + by, x, o -> o.mean(k, m, 1), Cases.THROWS);
+    }
+
     static void promise15_chanceAt_noSuchBendOfAnyWay() {
         int[][] none = {{0, 0}, {-1, -1}, {-1, 1}, {-1, 2}, {-1, 9}, {2, 1}, {3, 2}, {10, 9}, {0, 10}, {10, 10}, {1, -1},
             {0, -1}, {1, 0}};
-        for (String way : new String[] {"p(x:y)", "p(x:p(y:x))", "q(x:y)", "x"}) {
-            for (int[] bend : none) {
-                BentPenny x = Bench.withWay(Bench.TABLE, way);
-                String by = " of " + way + " by " + bend[0] + " of " + bend[1];
-                Cases.due("CHANCE" + by, x, o -> o.chanceAt(0, bend[0], bend[1], 0), Cases.THROWS);
-                Cases.due("MEAN" + by, x, o -> o.mean(bend[0], bend[1], 1), Cases.THROWS);
+        for (int[] bend : none) {
+            for (String way : new String[] {"p(x:y)", "p(x:p(y:x))", "q(x:y)", "x"}) {
+                noSuchBend(Bench.TABLE, way, bend[0], bend[1]);
             }
+            noSuchBend("coin q 1 3;end x;end y;", "q(x:y)", bend[0], bend[1]);
+            noSuchBend("end x;", "x", bend[0], bend[1]);
         }
     }
 

@@ -16,6 +16,7 @@ final class EdgesOfWaysTest {
         Cases.fraction("its MEAN", x, (o, what) -> o.bestMean(what), above, below);
         Cases.due("take()", x.take(), true);
         Cases.due("NODES", x.count(2), nodes);
+        Cases.due("deep()", x.deep(), nodes == 3 ? 1 : 2);
         Cases.written(x, way);
         Cases.fraction("CHANCE of END 0", x, (o, what) -> o.chance(0, what), 1, 2);
         Cases.fraction("CHANCE of END 1", x, (o, what) -> o.chance(1, what), 1, 2);
